@@ -219,12 +219,14 @@ public final class PersistentMapPromises {
         due(5, "graft(1, 3, 49)", x.graft(1, 3, 49), 11);
         due(5, "differing(3, 11)", x.differing(3, 11), 0);
         due(5, "parent(11)", x.parent(11), 1);
+        due(5, "graft(0, 6, 33)", x.graft(0, 6, 33), 12);
+        due(5, "size(12), the key after the plan not grafted", x.size(12), 0);
 
         due(5, "graft(-1, 0, 1)", x.graft(-1, 0, 1), -1);
         due(5, "graft(0, -1, 1)", x.graft(0, -1, 1), -1);
-        due(5, "graft(12, 0, 1)", x.graft(12, 0, 1), -1);
-        due(5, "graft(0, 12, 1)", x.graft(0, 12, 1), -1);
-        due(5, "graft(0, 12, 0)", x.graft(0, 12, 0), -1);
+        due(5, "graft(13, 0, 1)", x.graft(13, 0, 1), -1);
+        due(5, "graft(0, 13, 1)", x.graft(0, 13, 1), -1);
+        due(5, "graft(0, 13, 0)", x.graft(0, 13, 0), -1);
         for (int plan : BAD_PLANS) {
             due(5, "graft(0, 6, " + plan + ")", x.graft(0, 6, plan), -2);
         }
@@ -418,7 +420,7 @@ public final class PersistentMapPromises {
             due(15, "next(6, " + row[0] + ")", x.next(6, row[0]), row[1]);
         }
         due(15, "next(5, 0)", x.next(5, 0), 20);
-        due(15, "next(5, 21)", x.next(5, 21), -2);
+        due(15, "next(5, 21), key 0 being in version 6", x.next(5, 21), -2);
         due(15, "next(0, 0)", x.next(0, 0), -2);
         due(15, "next(-1, 0)", x.next(-1, 0), -1);
         due(15, "next(7, 0)", x.next(7, 0), -1);
@@ -432,6 +434,7 @@ public final class PersistentMapPromises {
             due(16, "previous(6, " + row[0] + ")", x.previous(6, row[0]), row[1]);
         }
         due(16, "previous(5, 31)", x.previous(5, 31), 20);
+        due(16, "previous(5, 32), key 0 being in version 6", x.previous(5, 32), 20);
         due(16, "previous(5, 19)", x.previous(5, 19), -2);
         due(16, "previous(0, 31)", x.previous(0, 31), -2);
         due(16, "previous(-1, 0)", x.previous(-1, 0), -1);
@@ -464,6 +467,8 @@ public final class PersistentMapPromises {
             due(18, "sum(6, " + row[0] + ", " + row[1] + ")", x.sum(6, row[0], row[1]), row[2]);
         }
         due(18, "sum(0, 0, 31)", x.sum(0, 0, 31), 0);
+        due(18, "sum(5, 0, MAX), key 0 being in version 6", x.sum(5, 0, MAX), 0);
+        due(18, "sum(6, MIN, 31), key 20 being in version 5", x.sum(6, MIN, 31), 109);
         due(18, "sum(-1, 0, 31)", x.sum(-1, 0, 31), 0);
         due(18, "sum(7, 0, 31)", x.sum(7, 0, 31), 0);
         due(18, "sum(MAX, 0, 31)", x.sum(MAX, 0, 31), 0);
