@@ -15,7 +15,7 @@ public final class PersistentMapBoundaries {
     // Multiplied by the number of keys this wraps to 0, so a check made after the product would miss it.
     private static final int WRAPS = 1 << 27;
     private static final int[] BAD_KEYS = {-1, 32, -2, 33, -32, 64, WRAPS, MIN, MAX};
-    private static final int[] BAD_PLANS = {0, 9, -15, 498, MIN + 1, MAX - 7};
+    private static final int[] BAD_PLANS = {0, 9, -15, 498, 513, MIN + 1, MAX - 7};
 
     private static String sentence = "";
     private static int tests = 0;
@@ -413,7 +413,7 @@ public final class PersistentMapBoundaries {
 
     private static void questionsChangeNothing() {
         Map<String, Consumer<PersistentMap>> all = new LinkedHashMap<>();
-        int[] some = {MIN, -1, 0, 3, 5, 6, 7, 31, 32, 39, 40, MAX};
+        int[] some = {MIN, -1, 0, 1, 3, 5, 6, 7, 31, 32, 39, 40, MAX};
         all.put("versions", x -> x.versions());
         all.put("parent", x -> ofEach(some, a -> x.parent(a)));
         all.put("ancestor", x -> ofEachTwo(some, (a, b) -> x.ancestor(a, b)));
@@ -466,9 +466,10 @@ public final class PersistentMapBoundaries {
         dueState(call + " on 40 versions", state(and(full, asked)), state(full));
     }
 
+    // An odd number of bad arguments of each kind: a change that undoes itself when made twice still shows.
     private static void refusedCallsChangeNothing() {
         Map<String, Consumer<PersistentMap>> all = new LinkedHashMap<>();
-        int[] bad = {-1, 40, MIN, MAX};
+        int[] bad = {-1, 40, 41, MIN, MAX};
         all.put("put refused for its version", x -> ofEach(bad, v -> x.put(v, 3, 1)));
         all.put("put refused for its key", x -> ofEach(BAD_KEYS, key -> x.put(0, key, 1)));
         all.put("remove refused for its version", x -> ofEach(bad, v -> x.remove(v, 3)));
@@ -484,7 +485,7 @@ public final class PersistentMapBoundaries {
         all.forEach(PersistentMapBoundaries::dueUnchanged);
         Supplier<PersistentMap> full = PersistentMapBoundaries::full;
         makers().forEach((name, maker) -> {
-            Consumer<PersistentMap> refused = x -> ofEach(new int[] {0, 3, 38, 39}, v -> maker.ask(x, v));
+            Consumer<PersistentMap> refused = x -> ofEach(new int[] {0, 3, 20, 38, 39}, v -> maker.ask(x, v));
             dueState(name + " refused for 40 versions", state(and(full, refused)), state(full));
         });
     }
@@ -533,6 +534,10 @@ public final class PersistentMapBoundaries {
             due("get(1, 1) of the other", y.get(1, 1), 0);
             due("get(1, 1) of the one", x.get(1, 1), 11);
             due("get(1, 2) of the one", x.get(1, 2), 0);
+            due("has(1, 1) of the one", x.has(1, 1), 1);
+            due("has(1, 2) of the one", x.has(1, 2), 0);
+            due("put on the one", x.put(1, 3, 33), 2);
+            due("versions() of the other", y.versions(), 2);
         });
     }
 
