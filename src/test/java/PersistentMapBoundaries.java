@@ -6,8 +6,8 @@ import java.util.function.Consumer;
 import java.util.function.Supplier;
 
 /**
- * A test of its own for each sentence of the document that names a boundary case. The name of a test
- * quotes its sentence.
+ * A test of its own for each sentence of the document that names a boundary case, and for those that
+ * say what a version and an ancestor are. The name of a test quotes its sentence.
  */
 public final class PersistentMapBoundaries {
     private static final int MIN = Integer.MIN_VALUE;
@@ -61,6 +61,7 @@ public final class PersistentMapBoundaries {
     }
 
     public static void main(String[] args) {
+        allVersionsStayUsable();
         calls();
         termsOfKeysAndVersions();
         termsOfCalls();
@@ -121,6 +122,15 @@ public final class PersistentMapBoundaries {
 
     private static PersistentMap full() {
         return line(40);
+    }
+
+    /** Versions 0 .. 39, version i with the parent (i - 1) / 2: two made from each, while there is room. */
+    private static PersistentMap bush() {
+        PersistentMap x = new PersistentMap();
+        for (int i = 1; i < 40; i++) {
+            x.put((i - 1) / 2, i % 32, i);
+        }
+        return x;
     }
 
     private static int[] badVersions(int versions) {
@@ -224,6 +234,28 @@ public final class PersistentMapBoundaries {
         }
     }
 
+    // ---- what it is
+
+    private static void allVersionsStayUsable() {
+        test("What it is: each version can be read", () -> {
+            PersistentMap x = full();
+            for (int v = 0; v < 40; v++) {
+                due("size(" + v + ")", x.size(v), Math.min(v, 32));
+                due("get(" + v + ", " + v % 32 + ")", x.get(v, v % 32), v);
+                due("sum(" + v + ", 0, 0)", x.sum(v, 0, 0), v < 32 ? 0 : 32);
+            }
+        });
+        test("What it is: each version can be changed into a new one", () -> {
+            for (Map.Entry<String, OnVersion> maker : makers().entrySet()) {
+                PersistentMap x = line(20);
+                for (int v = 0; v < 20; v++) {
+                    due(maker.getKey() + " of version " + v, maker.getValue().ask(x, v), 20 + v);
+                    due("parent(" + (20 + v) + ")", x.parent(20 + v), v);
+                }
+            }
+        });
+    }
+
     // ---- the number of calls
 
     private static void calls() {
@@ -315,6 +347,26 @@ public final class PersistentMapBoundaries {
             PersistentMap x = full();
             for (int v = 0; v < 40; v++) {
                 due("ancestor(" + v + ", " + v + ")", x.ancestor(v, v), 1);
+            }
+        });
+        test("Terms: of every version whose parent it is", () -> {
+            PersistentMap x = bush();
+            for (int w = 1; w < 40; w++) {
+                int v = (w - 1) / 2;
+                due("ancestor(" + v + ", " + w + ")", x.ancestor(v, w), 1);
+                due("ancestor(" + w + ", " + v + ")", x.ancestor(w, v), 0);
+            }
+        });
+        test("Terms: and of every version that one of these is an ancestor of", () -> {
+            for (int v = 0; v < 40; v++) {
+                PersistentMap x = bush();
+                for (int w = 0; w < 40; w++) {
+                    int reached = w;
+                    while (reached > v) {
+                        reached = (reached - 1) / 2;
+                    }
+                    due("ancestor(" + v + ", " + w + ")", x.ancestor(v, w), reached == v ? 1 : 0);
+                }
             }
         });
     }
